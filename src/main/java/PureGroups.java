@@ -1263,13 +1263,13 @@ public final class PureGroups {
             Arrays.fill(wrongAt, 0);
             readSum(0);
             System.arraycopy(sums[0], 0, ahead, 0, UNITS);
-            int equals = place;
+            int middle = place;
             expect('=');
             readSum(0);
             System.arraycopy(sums[0], 0, behind, 0, UNITS);
             expect(END);
             if (!same(ahead, behind)) {
-                markWrong(equals);
+                markWrong(middle);
             }
         }
 
