@@ -117,6 +117,15 @@ public final class FormulasTest {
         longest.setLength(69);
         longest.append("-12");
         due("28: 72 letters", Check.formula(x, longest.toString()), 3);
+        due("29: the last TERM of 72 letters", x.wrong(0), 70);
+        longest.setCharAt(70, 'A');
+        longest.setCharAt(69, '*');
+        longest.setCharAt(71, '1');
+        due("28: a FAULT in the last place", Check.formula(x, longest.toString()), -1071);
+        longest.setLength(69);
+        longest.append("*12");
+        due("28: 72 letters", Check.formula(x, longest.toString()), 2);
+        due("29: none WRONG in 72 letters", x.wrong(0), -9);
     }
 
     private static void formulaFaults() {
@@ -261,6 +270,10 @@ public final class FormulasTest {
         Check.formula(x, "1=C^4");
         due("31: four", x.mend(-1), -9);
         due("31: four", x.mend(0), -9);
+        due("31: a FAULT", Check.formula(x, "A="), -1002);
+        due("31: after a FAULT", x.mend(-1), -9);
+        x.turn(2, 4);
+        due("31: as they are now", x.mend(-1), 0);
         // 1, 0 and 4096 as digits of one number must not look like another DIMENSION.
         PureGroups y = new PureGroups();
         Check.quantity(y, 0, 0, 1);

@@ -168,6 +168,7 @@ public final class GroupsTest {
         due("14: the least first", y.least(1), 5);
         y.tell(0, 0, 6);
         due("14: SIZE 7 is none", y.least(-1), 0);
+        due("14: none", y.least(0), 0);
         due("14: none", y.least(1), 0);
         y.tell(1, 0, 0);
         due("14: SIZE 1", y.least(-1), 1);
