@@ -294,6 +294,12 @@ public final class TermTwoTest {
         dueLeast(x, 6, -1, -1, -1, -1, -1, 1);
         x.tell(5, 4, 2);
         dueLeast(x, 0, 0, 0, 0, 0, 0, 0);
+        PureGroups then = of(p(1), p(1));
+        dueLeast(then, 2, -1, 1);
+        then.tell(1, 1, 1);
+        dueLeast(then, 0, 0, 0);
+        then.undo();
+        dueLeast(then, 2, -1, 1);
     }
 
     private static void leastOfSeveral() {
