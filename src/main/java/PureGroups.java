@@ -1094,7 +1094,8 @@ public final class PureGroups {
     /** Small PRODUCTS and rows of FACTORS, gone through one by one. */
     private static final class Search {
         static final int SLOTS = 1024;
-        static final long EMPTY = Long.MIN_VALUE;
+        /** Farther than any key, those of POWERS are far below 2 to the 62nd. */
+        static final long EMPTY = 1L << 63;
 
         final Space space;
         final int[] leastPowers = new int[MOST_QUANTITIES];
